@@ -1,5 +1,6 @@
 import java.lang.reflect.InvocationTargetException;
 import java.lang.reflect.Method;
+import java.lang.reflect.Modifier;
 
 /** Makes the calls of a run, written as texts like "addEdge 0 1 5", on an object that has methods of these names. */
 final class Caller {
@@ -37,7 +38,8 @@ final class Caller {
 
     private Method method(String name) {
         for (Method method : object.getClass().getDeclaredMethods()) {
-            if (method.getName().equals(name)) {
+            // What is private is no call, whatever it is named.
+            if (method.getName().equals(name) && !Modifier.isPrivate(method.getModifiers())) {
                 method.setAccessible(true);
                 return method;
             }

@@ -45,7 +45,7 @@ final class Model {
     }
 
     int addEdge(int from, int to, int length) {
-        nodes(from, to);
+        checkNodes(from, to);
         illegal(from == to || length < 1 || length > 1000);
         if (all.size() == 24) {
             throw new IllegalStateException();
@@ -56,7 +56,7 @@ final class Model {
     }
 
     int setLength(int edge, int length) {
-        edge(edge);
+        checkEdge(edge);
         illegal(length < 1 || length > 1000);
         int before = all.get(edge).length;
         all.get(edge).length = length;
@@ -65,20 +65,20 @@ final class Model {
     }
 
     boolean toggleEdge(int edge) {
-        edge(edge);
+        checkEdge(edge);
         changed();
         return all.get(edge).closed = !all.get(edge).closed;
     }
 
     boolean toggleNode(int node) {
-        nodes(node, node);
+        checkNodes(node, node);
         changed();
         return closed[node] = !closed[node];
     }
 
     boolean toggleTurn(int first, int second) {
-        edge(first);
-        edge(second);
+        checkEdge(first);
+        checkEdge(second);
         illegal(all.get(first).to != all.get(second).from);
         List<Edge> forbidden = all.get(first).forbidden;
         return !forbidden.remove(all.get(second)) && forbidden.add(all.get(second));
@@ -97,7 +97,7 @@ final class Model {
     }
 
     int distance(int from, int to) {
-        nodes(from, to);
+        checkNodes(from, to);
         if (from == to) {
             return 0;
         }
@@ -105,7 +105,7 @@ final class Model {
     }
 
     void startPaths(int from, int to) {
-        twoNodes(from, to);
+        checkTwoNodes(from, to);
         paths = allPaths(from, to);
         pathCount = 0;
     }
@@ -134,7 +134,7 @@ final class Model {
     }
 
     int countPaths(int from, int to, int length) {
-        twoNodes(from, to);
+        checkTwoNodes(from, to);
         illegal(length < 0 || length > 100000);
         int count = 0;
         for (List<Edge> path : allPaths(from, to)) {
@@ -144,7 +144,7 @@ final class Model {
     }
 
     void startWalks(int from, int to) {
-        nodes(from, to);
+        checkNodes(from, to);
         walks = firstWalks(from, to);
         walkCount = 0;
     }
@@ -176,12 +176,12 @@ final class Model {
     }
 
     int disjointPaths(int from, int to, boolean apart) {
-        twoNodes(from, to);
+        checkTwoNodes(from, to);
         return leastSums(from, to, apart).size();
     }
 
     int disjointLength(int from, int to, int paths, boolean apart) {
-        twoNodes(from, to);
+        checkTwoNodes(from, to);
         illegal(paths < 1 || paths > 4);
         List<Integer> sums = leastSums(from, to, apart);
         missing(paths > sums.size());
@@ -275,7 +275,7 @@ final class Model {
 
     /** Walks are taken in their order; of those that end with the same edge the first one has the first way on. */
     private List<Edge> firstAllowed(int from, int to) {
-        nodes(from, to);
+        checkNodes(from, to);
         PriorityQueue<List<Edge>> begun = new PriorityQueue<>(ORDER);
         List<Edge> ended = new ArrayList<>();
         begun.add(new ArrayList<>());
@@ -381,16 +381,16 @@ final class Model {
         walks = null;
     }
 
-    private void nodes(int from, int to) {
+    private void checkNodes(int from, int to) {
         illegal(from < 0 || from >= closed.length || to < 0 || to >= closed.length);
     }
 
-    private void twoNodes(int from, int to) {
-        nodes(from, to);
+    private void checkTwoNodes(int from, int to) {
+        checkNodes(from, to);
         illegal(from == to);
     }
 
-    private void edge(int edge) {
+    private void checkEdge(int edge) {
         illegal(edge < 0 || edge >= all.size());
     }
 

@@ -39,6 +39,9 @@ final class NetworkTest {
             "toggleTurn 0 1 : true; begin 3; edges : 0; usableEdges : 0",
             "addEdge 0 1 1 : 0; addEdge 1 2 1 : 1; usableEdges : 2; allowedLength 0 2 : 2",
             "toggleEdge 0 : true; toggleNode 2 : true; toggleTurn 0 1 : true");
+        Runs.run("promise 2 forgets open edges",
+            "begin 3; addEdge 0 1 1 : 0; addEdge 1 2 1 : 1; begin 3; usableEdges : 0; distance 0 1 : NSE",
+            "allowedLength 0 2 : NSE; startPaths 0 2; nextPath : NSE; startWalks 0 2; nextWalk : NSE; toggleTurn 0 1 : IAE");
     }
 
     private static void addEdge() {
@@ -97,6 +100,7 @@ final class NetworkTest {
             "toggleTurn 0 1 : true; allowedLength 0 2 : NSE; toggleTurn 0 1 : false; allowedLength 0 2 : 2",
             "toggleTurn 1 0 : IAE; toggleTurn 0 0 : IAE; toggleTurn 0 2 : IAE; toggleTurn 0 4 : IAE",
             "toggleTurn 4 0 : IAE; toggleTurn -1 0 : IAE; toggleTurn 0 -1 : IAE; toggleTurn 3 0 : true",
+            "toggleTurn 3 4 : IAE; toggleTurn 3 -1 : IAE; toggleTurn 3 24 : IAE; toggleTurn 4 4 : IAE",
             "toggleTurn 0 3 : true; toggleTurn 3 0 : false; toggleTurn 0 3 : false",
             "toggleEdge 0 : true; toggleNode 1 : true; toggleTurn 0 1 : true; toggleEdge 0 : false; toggleNode 1 : false",
             "allowedLength 0 2 : NSE; distance 0 2 : 2; addEdge 0 1 5 : 4; allowedLength 0 2 : 6; toggleTurn 0 1 : false");

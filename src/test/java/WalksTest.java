@@ -103,7 +103,7 @@ final class WalksTest {
         Runs.run("promise 21",
             "walkEdges : ISE; begin 3; addEdge 0 1 1 : 0; addEdge 1 2 1 : 1; addEdge 2 1 1 : 2; walkEdges : ISE",
             "startWalks 0 2; walkEdges : NSE; nextWalk : 2; walkEdges : 2; nextWalk : 4; walkEdges : 4; startWalks 0 2",
-            "walkEdges : NSE; startWalks 2 0; nextWalk : NSE; walkEdges : NSE; toggleEdge 0 : true; walkEdges : ISE");
+            "walkEdges : NSE; walkEdge 0 : NSE; startWalks 2 0; nextWalk : NSE; walkEdges : NSE; toggleEdge 0 : true; walkEdges : ISE");
     }
 
     private static void walkEdge() {
