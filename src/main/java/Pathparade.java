@@ -19,7 +19,7 @@ public final class Pathparade {
     /** Stands where there is no edge. */
     private static final int NONE = -1;
 
-    /** The length of a way that does not exist: above every real one, and far enough from an int's end to be added to. */
+    /** The length of a way that does not exist: above every real one, yet so far below an int's end that two add up. */
     private static final int ENDLESS = 1000000000;
 
     private final Network network;
@@ -33,13 +33,14 @@ public final class Pathparade {
     private boolean walksStarted;
 
     public Pathparade() {
-        network = new Network();
-        distances = new Distances(network);
-        paths = new PathDraw(network);
-        pathCount = new PathCount(network);
-        walks = new WalkDraw(network);
-        disjoint = new DisjointFlow(network);
-        allowed = new AllowedWalk(network);
+        Network made = new Network();
+        network = made;
+        distances = new Distances(made);
+        paths = new PathDraw(made);
+        pathCount = new PathCount(made);
+        walks = new WalkDraw(made);
+        disjoint = new DisjointFlow(made);
+        allowed = new AllowedWalk(made);
     }
 
     // ---- the network
@@ -293,7 +294,7 @@ public final class Pathparade {
     }
 
     private static boolean hasBit(int bits, int place) {
-        return (bits >>> place & 1) != 0;
+        return ((bits >>> place) & 1) != 0;
     }
 
     /** The nodes, the edges, and what is closed or forbidden of them. */
@@ -350,7 +351,7 @@ public final class Pathparade {
         }
 
         boolean switchTurn(int first, int second) {
-            put(forbidden, first, at(forbidden, first) ^ 1 << second);
+            put(forbidden, first, at(forbidden, first) ^ (1 << second));
             return isForbidden(first, second);
         }
 
@@ -369,7 +370,8 @@ public final class Pathparade {
         }
 
         private boolean isUsable(int edge) {
-            return !hasBit(closedEdges, edge) && !hasBit(closedNodes, tailOf(edge)) && !hasBit(closedNodes, headOf(edge));
+            boolean endClosed = hasBit(closedNodes, tailOf(edge)) || hasBit(closedNodes, headOf(edge));
+            return !endClosed && !hasBit(closedEdges, edge);
         }
 
         boolean hasNode(int node) {
@@ -529,11 +531,11 @@ public final class Pathparade {
             for (int place = network.outStart(node); place < network.outEnd(node); place++) {
                 int edge = network.outEdge(place);
                 int next = network.headOf(edge);
-                long longer = begun + ofLength(network.lengthOf(edge)) + (edge + 1L << slotShift(depth));
+                long longer = begun + ofLength(network.lengthOf(edge)) + ((edge + 1L) << slotShift(depth));
                 if (next == draw.to) {
                     draw.keep(longer);
                 } else if (!hasBit(visited, next) && draw.leadsOn(next, longer)) {
-                    explore(draw, next, visited | 1 << next, longer, depth + 1);
+                    explore(draw, next, visited | (1 << next), longer, depth + 1);
                 }
             }
         }
@@ -580,7 +582,7 @@ public final class Pathparade {
             if (place < 0 || place >= SLOTS) {
                 return NONE;
             }
-            return (int) (current >>> slotShift(place) & SLOT_MASK) - 1;
+            return (int) ((current >>> slotShift(place)) & SLOT_MASK) - 1;
         }
 
         int currentSize() {
@@ -610,7 +612,7 @@ public final class Pathparade {
         }
 
         private static int countFrom(PathCount count, int node, int visited, int left, int depth) {
-            if (depth >= MOST_NODES) {
+            if (depth >= MOST_NODES - 1) {
                 return 0;
             }
             Network network = count.network;
@@ -622,7 +624,7 @@ public final class Pathparade {
                 if (hasBit(visited, next) || count.distances.ofNode(next) > rest) {
                     continue;
                 }
-                total += next == count.to ? 1 : countFrom(count, next, visited | 1 << next, rest, depth + 1);
+                total += next == count.to ? 1 : countFrom(count, next, visited | (1 << next), rest, depth + 1);
             }
             return total;
         }
@@ -753,12 +755,15 @@ public final class Pathparade {
         private static final int ARCS = MOST_EDGES + MOST_NODES;
 
         private final Network network;
-        private final int[] flows = new int[ARCS];
+        private final int[] tails = new int[ARCS];
+        private final int[] heads = new int[ARCS];
+        private final int[] lengths = new int[ARCS];
+        /** How many paths an arc can carry, and how many it carries. */
         private final int[] rooms = new int[ARCS];
+        private final int[] flows = new int[ARCS];
+        /** For each point the least cost at which it is reached, and the arc by which it is reached then. */
         private final int[] costs = new int[POINTS];
-        /** For each point the arc by which it is reached, and whether it is reached against the arc's direction. */
         private final int[] arcs = new int[POINTS];
-        private final int[] againsts = new int[POINTS];
         private int source;
         private int target;
 
@@ -767,7 +772,7 @@ public final class Pathparade {
         }
 
         int pathTotal(int from, int to, boolean apart) {
-            empty(from, to, apart);
+            layArcs(from, to, apart);
             int total = 0;
             while (total < MOST_EDGES && addPath() < ENDLESS) {
                 total++;
@@ -776,7 +781,7 @@ public final class Pathparade {
         }
 
         int leastLength(int from, int to, int total, boolean apart) {
-            empty(from, to, apart);
+            layArcs(from, to, apart);
             int length = 0;
             for (int path = 0; path < total && length < ENDLESS; path++) {
                 length += addPath();
@@ -784,22 +789,38 @@ public final class Pathparade {
             return length;
         }
 
-        private void empty(int from, int to, boolean apart) {
-            source = 2 * from + 1;
-            target = 2 * to;
+        private void layArcs(int from, int to, boolean apart) {
+            source = pointBehind(from);
+            target = pointBefore(to);
             Arrays.fill(flows, 0);
             Arrays.fill(rooms, 0);
             for (int place = 0; place < network.usableTotal(); place++) {
-                put(rooms, network.outEdge(place), 1);
+                int edge = network.outEdge(place);
+                layArc(edge, pointBehind(network.tailOf(edge)), pointBefore(network.headOf(edge)), 1);
+                put(lengths, edge, network.lengthOf(edge));
             }
             for (int node = 0; node < MOST_NODES; node++) {
                 // A path passes neither of its ends.
                 int room = node == from || node == to ? 0 : apart ? 1 : MOST_EDGES;
-                put(rooms, MOST_EDGES + node, room);
+                layArc(MOST_EDGES + node, pointBefore(node), pointBehind(node), room);
             }
         }
 
-        /** Makes room for one more path in the cheapest way; answers by how much the sum of the lengths grows. */
+        private void layArc(int arc, int tail, int head, int room) {
+            put(tails, arc, tail);
+            put(heads, arc, head);
+            put(rooms, arc, room);
+        }
+
+        private static int pointBefore(int node) {
+            return 2 * node;
+        }
+
+        private static int pointBehind(int node) {
+            return 2 * node + 1;
+        }
+
+        /** Adds a path in the cheapest way; answers by how much the sum of the lengths grows. */
         private int addPath() {
             Arrays.fill(costs, ENDLESS);
             put(costs, source, 0);
@@ -807,61 +828,47 @@ public final class Pathparade {
             for (int round = 0; round < POINTS && cheaper; round++) {
                 cheaper = cheapenAll();
             }
-            if (at(costs, target) < ENDLESS) {
-                sendBack();
+            int cost = at(costs, target);
+            if (cost < ENDLESS) {
+                send();
             }
-            return at(costs, target);
+            return cost;
         }
 
         private boolean cheapenAll() {
             boolean cheaper = false;
             for (int arc = 0; arc < ARCS; arc++) {
-                if (at(flows, arc) < at(rooms, arc) && cheapen(arc, 0)) {
-                    cheaper = true;
+                int tail = at(tails, arc);
+                int head = at(heads, arc);
+                if (at(flows, arc) < at(rooms, arc)) {
+                    cheaper = reach(head, tail, at(lengths, arc), arc) || cheaper;
                 }
-                if (at(flows, arc) > 0 && cheapen(arc, 1)) {
-                    cheaper = true;
+                // Against its direction an arc gives back what it carries.
+                if (at(flows, arc) > 0) {
+                    cheaper = reach(tail, head, -at(lengths, arc), arc) || cheaper;
                 }
             }
             return cheaper;
         }
 
-        private boolean cheapen(int arc, int against) {
-            int begin = against == 0 ? arcTail(arc) : arcHead(arc);
-            int end = against == 0 ? arcHead(arc) : arcTail(arc);
-            if (at(costs, begin) >= ENDLESS) {
+        private boolean reach(int point, int before, int length, int arc) {
+            int cost = at(costs, before) + length;
+            if (at(costs, before) >= ENDLESS || cost >= at(costs, point)) {
                 return false;
             }
-            int cost = at(costs, begin) + (against == 0 ? arcLength(arc) : -arcLength(arc));
-            if (cost >= at(costs, end)) {
-                return false;
-            }
-            put(costs, end, cost);
-            put(arcs, end, arc);
-            put(againsts, end, against);
+            put(costs, point, cost);
+            put(arcs, point, arc);
             return true;
         }
 
-        private void sendBack() {
+        private void send() {
             int point = target;
             for (int step = 0; step < POINTS && point != source; step++) {
                 int arc = at(arcs, point);
-                boolean along = at(againsts, point) == 0;
+                boolean along = at(heads, arc) == point;
                 put(flows, arc, at(flows, arc) + (along ? 1 : -1));
-                point = along ? arcTail(arc) : arcHead(arc);
+                point = along ? at(tails, arc) : at(heads, arc);
             }
-        }
-
-        private int arcTail(int arc) {
-            return arc < MOST_EDGES ? 2 * network.tailOf(arc) + 1 : 2 * (arc - MOST_EDGES);
-        }
-
-        private int arcHead(int arc) {
-            return arc < MOST_EDGES ? 2 * network.headOf(arc) : 2 * (arc - MOST_EDGES) + 1;
-        }
-
-        private int arcLength(int arc) {
-            return arc < MOST_EDGES ? network.lengthOf(arc) : 0;
         }
     }
 
@@ -870,7 +877,7 @@ public final class Pathparade {
         private final Network network;
         /** For each edge the length of the shortest allowed walk that begins with it. */
         private final int[] lengths = new int[MOST_EDGES];
-        /** The walk that was found; no edge stands in it twice, as what follows the later one could follow the earlier. */
+        /** The walk that was found. No edge stands in it twice: what follows it later could follow it at once. */
         private final int[] found = new int[MOST_EDGES];
         private int foundSize;
 
@@ -886,7 +893,7 @@ public final class Pathparade {
             }
             measureTo(to);
             int edge = bestAfter(NONE, from);
-            int length = edge == NONE ? ENDLESS : at(lengths, edge);
+            int length = lengthFrom(edge);
             while (edge != NONE && foundSize < MOST_EDGES) {
                 put(found, foundSize, edge);
                 foundSize++;
@@ -909,8 +916,10 @@ public final class Pathparade {
             boolean shortened = false;
             for (int place = 0; place < network.usableTotal(); place++) {
                 int edge = network.outEdge(place);
-                int length = network.lengthOf(edge) + lengthBehind(edge, to);
-                if (length < at(lengths, edge)) {
+                int node = network.headOf(edge);
+                int behind = node == to ? 0 : lengthFrom(bestAfter(edge, node));
+                int length = network.lengthOf(edge) + behind;
+                if (length < lengthFrom(edge)) {
                     put(lengths, edge, length);
                     shortened = true;
                 }
@@ -918,13 +927,8 @@ public final class Pathparade {
             return shortened;
         }
 
-        private int lengthBehind(int edge, int to) {
-            int node = network.headOf(edge);
-            if (node == to) {
-                return 0;
-            }
-            int best = bestAfter(edge, node);
-            return best == NONE ? ENDLESS : at(lengths, best);
+        private int lengthFrom(int edge) {
+            return edge == NONE ? ENDLESS : at(lengths, edge);
         }
 
         /** The lowest of the edges that go on in the shortest allowed way, or NONE; before may be NONE, too. */
@@ -934,8 +938,8 @@ public final class Pathparade {
             for (int place = network.outStart(node); place < network.outEnd(node); place++) {
                 int edge = network.outEdge(place);
                 boolean forbidden = before != NONE && network.isForbidden(before, edge);
-                if (!forbidden && at(lengths, edge) < least) {
-                    least = at(lengths, edge);
+                if (!forbidden && lengthFrom(edge) < least) {
+                    least = lengthFrom(edge);
                     best = edge;
                 }
             }

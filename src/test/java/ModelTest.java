@@ -4,7 +4,9 @@ import java.util.List;
 /** Makes the same calls on the program and on the model, over networks of many kinds, and compares all answers. */
 final class ModelTest {
     private static final int RUNS = 600;
-    private static final int CALLS = 400;
+    private static final int CALLS = 500;
+    /** From this call on draws go on without a change, so that they come far. */
+    private static final int STILL = 300;
 
     /** A number sequence of our own, so that each run of the test is the same. */
     private static final class Numbers {
@@ -24,6 +26,8 @@ final class ModelTest {
     private final Caller program = new Caller(new Pathparade());
     private final Caller model = new Caller(new Model());
     private final List<String> calls = new ArrayList<>();
+    /** The calls that would open again what is closed. */
+    private final List<String> closings = new ArrayList<>();
     private final int mostLength;
     private int nodes = 2;
     private int edges;
@@ -42,11 +46,12 @@ final class ModelTest {
 
     private void compare(int run) {
         for (int call = 0; call < CALLS; call++) {
-            make(calls.isEmpty() ? "begin " + (2 + numbers.below(9)) : edges < kindEdges(run) && call < 40 ? edge() : any());
+            calls.add(choose(run, call));
             String made = calls.get(calls.size() - 1);
             String due = model.answer(made);
             String got = program.answer(made);
             Runs.due("run " + run + " call " + call + " " + made, got, due);
+            noteClosing(made, due);
             nodes = Integer.parseInt(model.answer("nodes"));
             edges = Integer.parseInt(model.answer("edges"));
             if (!got.equals(due)) {
@@ -56,13 +61,54 @@ final class ModelTest {
         }
     }
 
-    private void make(String call) {
-        calls.add(call);
+    private void noteClosing(String call, String answer) {
+        if ((call.startsWith("toggleEdge") || call.startsWith("toggleNode")) && answer.equals("true")) {
+            closings.add(call);
+        } else if (answer.equals("false")) {
+            closings.remove(call);
+        }
+    }
+
+    private String choose(int run, int call) {
+        if (call == 0) {
+            return "begin " + (2 + numbers.below(9));
+        }
+        if (call < 40 && edges < kindEdges(run)) {
+            return edge();
+        }
+        boolean opens = call < STILL && (call > STILL - 40 || numbers.below(20) == 0);
+        if (opens && !closings.isEmpty()) {
+            return closings.get(0);
+        }
+        return call < STILL ? any() : still(call);
+    }
+
+    private String still(int call) {
+        if (call % 100 == 0) {
+            return "startWalks " + ends();
+        }
+        if (call % 100 == 1) {
+            return "startPaths " + numbers.below(nodes) + " " + numbers.below(nodes);
+        }
+        switch (numbers.below(10)) {
+            case 0:
+                return "pathEdge " + numbers.below(6);
+            case 1:
+                return "walkEdge " + numbers.below(20);
+            case 2:
+                return numbers.below(2) == 0 ? "pathEdges" : "walkEdges";
+            case 3:
+            case 4:
+            case 5:
+                return "nextPath";
+            default:
+                return "nextWalk";
+        }
     }
 
     /** Few enough edges for the model, which lists all sets of disjoint paths. */
     private int kindEdges(int run) {
-        return Math.min(24, 4 + nodes * (1 + run % 3));
+        return Math.min(24, 5 + nodes * (1 + run % 3));
     }
 
     private String edge() {
