@@ -5,6 +5,7 @@ final class DisjointTest {
         disjointLength();
         apartOrNot();
         detour();
+        givenBackAndUsedAgain();
         parallelEdges();
         Runs.end("DisjointTest");
     }
@@ -57,6 +58,21 @@ final class DisjointTest {
             "begin 4; addEdge 0 1 1 : 0; addEdge 1 2 1 : 1; addEdge 2 3 1 : 2; addEdge 3 0 1 : 3; addEdge 2 0 1 : 4",
             "addEdge 1 0 1 : 5; disjointPaths 1 2 false : 1; disjointPaths 1 3 false : 1; disjointPaths 3 1 false : 1",
             "disjointPaths 2 1 false : 1; disjointLength 2 1 1 true : 2; disjointPaths 2 0 true : 2; disjointLength 2 0 2 true : 3");
+    }
+
+    /** An edge of the first path is given back for the second one, and used again by a later one. */
+    private static void givenBackAndUsedAgain() {
+        Runs.run("given back and used again",
+            "begin 4; addEdge 2 3 1 : 0; addEdge 2 1 3 : 1; addEdge 3 1 3 : 2; addEdge 2 3 3 : 3",
+            "addEdge 0 2 3 : 4; addEdge 0 2 1 : 5; addEdge 0 3 3 : 6; addEdge 3 1 1 : 7",
+            "disjointPaths 0 1 false : 3; disjointLength 0 1 3 false : 15; disjointLength 0 1 2 false : 8",
+            "disjointLength 0 1 1 false : 3; disjointLength 0 1 2 true : 8; disjointLength 0 1 3 true : NSE");
+        Runs.run("given back and used again by the fourth",
+            "begin 5; addEdge 4 3 7 : 0; addEdge 4 1 8 : 1; addEdge 1 0 3 : 2; addEdge 0 4 6 : 3",
+            "addEdge 3 4 3 : 4; addEdge 3 4 8 : 5; addEdge 3 1 8 : 6; addEdge 0 3 3 : 7",
+            "addEdge 2 4 1 : 8; addEdge 4 1 6 : 9; addEdge 0 3 4 : 10; addEdge 1 0 6 : 11",
+            "addEdge 3 4 2 : 12; addEdge 0 3 8 : 13; addEdge 4 1 2 : 14",
+            "disjointPaths 0 1 false : 4; disjointLength 0 1 4 false : 50; disjointLength 0 1 1 true : 7");
     }
 
     private static void parallelEdges() {
