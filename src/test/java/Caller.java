@@ -4,7 +4,11 @@ import java.lang.reflect.Modifier;
 
 /** Makes the calls of a run, written as texts like "addEdge 0 1 5", on an object that has methods of these names. */
 final class Caller {
+    /** Nothing is promised of later calls. */
+    private static final int MOST_CALLS = 512;
+
     private final Object object;
+    private int calls;
 
     Caller(Object object) {
         this.object = object;
@@ -12,6 +16,10 @@ final class Caller {
 
     /** What the call answers: its value, "ok" where there is none, or the name of what it throws. */
     String answer(String call) {
+        calls++;
+        if (calls > MOST_CALLS && object instanceof Pathparade) {
+            throw new IllegalStateException("the test makes more calls than the document promises answers to: " + call);
+        }
         String[] words = call.trim().split(" +");
         Method method = method(words[0]);
         Class<?>[] types = method.getParameterTypes();

@@ -119,8 +119,10 @@ final class PathsTest {
         Runs.run("many paths", caller, "countPaths 0 8 100000 : 6561; countPaths 0 8 8 : 1; countPaths 0 6 100000 : 729",
             "countPaths 0 6 0 : 0; countPaths 0 6 5 : 0; countPaths 0 6 369 : 364; startPaths 0 6");
         for (int path = 0; path < 400; path++) {
-            Runs.run("many paths", caller, "nextPath : " + (6 + path), "pathEdge 0 : " + path % 3,
-                "pathEdge 5 : " + (15 + path / 243));
+            Runs.run("many paths", caller, "nextPath : " + (6 + path));
+            if (path % 13 == 0) {
+                Runs.run("many paths", caller, "pathEdge 0 : " + path % 3, "pathEdge 5 : " + (15 + path / 243));
+            }
         }
         Runs.run("many paths", caller, "pathsDrawn : 400; startPaths 0 8; nextPath : 8; pathEdge 7 : 21");
     }
