@@ -44,33 +44,40 @@ final class ChangesNothing {
     }
 
     private static void full() {
-        Sentences.test("addEdge when there are 24", Sentences.edges(0, 1, 3, 0, 23), "startPaths 0 1; nextPath : 3; startWalks 0 1; nextWalk : 3",
-            "addEdge 0 1 1 : ISE; addEdge 1 0 1 : ISE; pathsDrawn : 1; walksDrawn : 1; nextPath : 3; nextWalk : 3; pathEdge 0 : 1; walkEdge 0 : 1",
-            "edges : 24; usableEdges : 24; distance 0 1 : 3; distance 1 0 : NSE; setLength 0 3 : 3; setLength 23 3 : 3");
+        Sentences.test("addEdge when there are 24", Sentences.edges(0, 1, 3, 0, 23), "startPaths 0 1; nextPath : 3",
+            "startWalks 0 1; nextWalk : 3; addEdge 0 1 1 : ISE; addEdge 1 0 1 : ISE; pathsDrawn : 1; walksDrawn : 1",
+            "nextPath : 3; nextWalk : 3; pathEdge 0 : 1; walkEdge 0 : 1; edges : 24; usableEdges : 24",
+            "distance 0 1 : 3; distance 1 0 : NSE; setLength 0 3 : 3; setLength 23 3 : 3");
     }
 
     private static void allDrawn() {
-        Sentences.test("nextPath when all are drawn", "addEdge 0 1 3 : 0; startPaths 0 1; nextPath : 3; nextPath : NSE; pathsDrawn : 1; pathEdges : 1",
-            "pathEdge 0 : 0; nextPath : NSE; pathsDrawn : 1; pathEdge 0 : 0; pathEdge 1 : NSE");
-        Sentences.test("nextPath when there is none", "startPaths 0 1; nextPath : NSE; pathsDrawn : 0; pathEdges : NSE; pathEdge 0 : NSE; nextPath : NSE");
-        Sentences.test("nextWalk when all are drawn", "addEdge 0 1 3 : 0; startWalks 0 1; nextWalk : 3; nextWalk : NSE; walksDrawn : 1; walkEdges : 1",
-            "walkEdge 0 : 0; nextWalk : NSE; walksDrawn : 1; walkEdge 0 : 0; walkEdge 1 : NSE");
-        Sentences.test("nextWalk when there is none", "startWalks 0 1; nextWalk : NSE; walksDrawn : 0; walkEdges : NSE; walkEdge 0 : NSE; nextWalk : NSE");
+        Sentences.test("nextPath when all are drawn", "addEdge 0 1 3 : 0; startPaths 0 1; nextPath : 3; nextPath : NSE",
+            "pathsDrawn : 1; pathEdges : 1; pathEdge 0 : 0; nextPath : NSE; pathsDrawn : 1; pathEdge 0 : 0",
+            "pathEdge 1 : NSE");
+        Sentences.test("nextPath when there is none", "startPaths 0 1; nextPath : NSE; pathsDrawn : 0; pathEdges : NSE",
+            "pathEdge 0 : NSE; nextPath : NSE");
+        Sentences.test("nextWalk when all are drawn", "addEdge 0 1 3 : 0; startWalks 0 1; nextWalk : 3; nextWalk : NSE",
+            "walksDrawn : 1; walkEdges : 1; walkEdge 0 : 0; nextWalk : NSE; walksDrawn : 1; walkEdge 0 : 0",
+            "walkEdge 1 : NSE");
+        Sentences.test("nextWalk when there is none", "startWalks 0 1; nextWalk : NSE; walksDrawn : 0; walkEdges : NSE",
+            "walkEdge 0 : NSE; nextWalk : NSE");
     }
 
     private static void fiftyDrawn() {
         Caller caller = new Caller(new Pathparade());
-        Sentences.test("nextWalk after fifty", caller, "addEdge 0 1 1 : 0; addEdge 1 0 1 : 1; startPaths 0 1; startWalks 0 1");
+        Sentences.test("nextWalk after fifty", caller, "addEdge 0 1 1 : 0; addEdge 1 0 1 : 1; startPaths 0 1",
+            "startWalks 0 1");
         for (int walk = 0; walk < 50; walk++) {
             Sentences.test("nextWalk after fifty", caller, "nextWalk : " + (1 + 2 * walk));
         }
-        Sentences.test("nextWalk after fifty", caller, "nextWalk : ISE; walksDrawn : 50; walkEdges : 99; walkEdge 98 : 0; walkEdge 99 : NSE",
-            "nextWalk : ISE; walksDrawn : 50; walkEdges : 99; nextPath : 1");
+        Sentences.test("nextWalk after fifty", caller, "nextWalk : ISE; walksDrawn : 50; walkEdges : 99",
+            "walkEdge 98 : 0; walkEdge 99 : NSE; nextWalk : ISE; walksDrawn : 50; walkEdges : 99; nextPath : 1");
     }
 
     private static void notStarted() {
-        Sentences.test("calls of draws that are not started", "addEdge 0 1 1 : 0; nextPath : ISE; pathsDrawn : ISE; pathEdges : ISE; pathEdge 0 : ISE",
-            "nextWalk : ISE; walksDrawn : ISE; walkEdges : ISE; walkEdge 0 : ISE; nextPath : ISE; nextWalk : ISE; startPaths 0 1",
-            "pathsDrawn : 0; nextWalk : ISE; nextPath : 1; startWalks 0 1; walksDrawn : 0; nextWalk : 1; edges : 1; usableEdges : 1");
+        Sentences.test("calls of draws that are not started", "addEdge 0 1 1 : 0; nextPath : ISE; pathsDrawn : ISE",
+            "pathEdges : ISE; pathEdge 0 : ISE; nextWalk : ISE; walksDrawn : ISE; walkEdges : ISE; walkEdge 0 : ISE",
+            "nextPath : ISE; nextWalk : ISE; startPaths 0 1; pathsDrawn : 0; nextWalk : ISE; nextPath : 1",
+            "startWalks 0 1; walksDrawn : 0; nextWalk : 1; edges : 1; usableEdges : 1");
     }
 }

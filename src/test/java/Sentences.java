@@ -62,7 +62,8 @@ final class Sentences {
     static void end(String name, String... sections) {
         for (String inSection : sections) {
             for (String one : sentences(inSection)) {
-                Runs.due("test of \"" + one + "\" in " + inSection, "" + tested.contains(inSection + ": " + one), "true");
+                boolean isTested = tested.contains(inSection + ": " + one);
+                Runs.due("test of \"" + one + "\" in " + inSection, "" + isTested, "true");
             }
         }
         Runs.end(name);
@@ -81,7 +82,7 @@ final class Sentences {
         StringBuilder rows = new StringBuilder();
         for (int edge = first; edge <= last; edge++) {
             rows.append(edge == first ? "" : "; ");
-            rows.append("addEdge ").append(from).append(' ').append(to).append(' ').append(length).append(" : ").append(edge);
+            rows.append("addEdge " + from + " " + to + " " + length + " : " + edge);
         }
         return rows.toString();
     }
