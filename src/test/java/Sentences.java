@@ -1,5 +1,6 @@
 import java.io.IOException;
 import java.nio.file.Files;
+import java.nio.file.Path;
 import java.nio.file.Paths;
 import java.util.ArrayList;
 import java.util.LinkedHashSet;
@@ -27,6 +28,10 @@ final class Sentences {
     static void of(String inSection, String itsWords) {
         section = inSection;
         words = itsWords;
+        sentence = itsWords;
+        if (DOCUMENT.isEmpty()) {
+            return;
+        }
         List<String> having = new ArrayList<>();
         for (String one : sentences(inSection)) {
             if (one.contains(itsWords)) {
@@ -34,7 +39,9 @@ final class Sentences {
             }
         }
         Runs.due("sentences of \"" + section + "\" that have \"" + words + "\"", "" + having.size(), "1");
-        sentence = having.isEmpty() ? "" : having.get(0);
+        if (!having.isEmpty()) {
+            sentence = having.get(0);
+        }
     }
 
     static void of(int promise, String itsWords) {
@@ -61,6 +68,7 @@ final class Sentences {
     /** Ends the program; each sentence of the sections must have been tested. */
     static void end(String name, String... sections) {
         for (String inSection : sections) {
+            Runs.due("a section " + inSection, "" + (DOCUMENT.isEmpty() || !sentences(inSection).isEmpty()), "true");
             for (String one : sentences(inSection)) {
                 boolean isTested = tested.contains(inSection + ": " + one);
                 Runs.due("test of \"" + one + "\" in " + inSection, "" + isTested, "true");
@@ -111,9 +119,15 @@ final class Sentences {
         }
     }
 
+    /** Without the document the calls are tested all the same, but not whether each sentence has been. */
     private static List<String> lines() {
+        Path document = Paths.get("../shared/DOC.md");
+        if (!Files.isReadable(document)) {
+            System.out.println("no ../shared/DOC.md: its sentences are not looked at");
+            return new ArrayList<>();
+        }
         try {
-            return Files.readAllLines(Paths.get("../shared/DOC.md"));
+            return Files.readAllLines(document);
         } catch (IOException e) {
             throw new IllegalStateException(e);
         }
